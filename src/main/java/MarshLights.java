@@ -12,7 +12,9 @@ public final class MarshLights {
     private static final int TOP_SLOPE = 999;
     private static final int TOP_Z = 255;
     private static final int TOP_LIGHTS = 9;
+    // A line of sight is looked at in sixteenths; a shift by 4 is a division by 16 that cuts downwards.
     private static final int STEPS = 16;
+    private static final int STEP_BITS = 4;
 
     private static final int MOST_HILLS = 8;
     private static final int MOST_SEERS = 20;
@@ -761,7 +763,7 @@ public final class MarshLights {
         int eye = eyeAt(from);
         int least = land.groundAt(place / SIDE, place % SIDE) + 1;
         for (int k = 1; k < STEPS; k++) {
-            int ground = land.groundAt(fromX + Math.floorDiv(dx * k, STEPS), fromY + Math.floorDiv(dy * k, STEPS));
+            int ground = land.groundAt(fromX + (dx * k >> STEP_BITS), fromY + (dy * k >> STEP_BITS));
             least = Math.max(least, eye + ceilDiv((ground - eye) * STEPS, k));
         }
         return least;
@@ -997,9 +999,9 @@ public final class MarshLights {
                 return NONE;
             }
             for (int k = 1; k < STEPS; k++) {
-                int x = fromX + Math.floorDiv(dx * k, STEPS);
-                int y = fromY + Math.floorDiv(dy * k, STEPS);
-                if (land.groundAt(x, y) > eye + Math.floorDiv(rise * k, STEPS)) {
+                int x = fromX + (dx * k >> STEP_BITS);
+                int y = fromY + (dy * k >> STEP_BITS);
+                if (land.groundAt(x, y) > eye + (rise * k >> STEP_BITS)) {
                     return land.makerAt(x, y);
                 }
             }

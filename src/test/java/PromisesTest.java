@@ -175,10 +175,17 @@ public final class PromisesTest {
     due("flight y", m.at(0, 13, 1), 9);
     due("balloon x", m.at(1, 13, 0), 4);
     due("balloon y", m.at(1, 14, 1), 7);
+    due("balloon first", m.at(1, 10, 1), 6);
     due("burning x", m.at(2, 13, 0), -4);
     due("burning y", m.at(2, 13, 1), 21);
     due("burning z", m.at(2, 13, 2), 255);
     due("off the map", m.at(4, 239, 1), -1195);
+    MarshLights b = new MarshLights();
+    b.flies(4, 239, p(5, 6), 0, speed(1, -1));
+    due("balloon ahead of a sixteenth", b.at(0, 15, 0), 5);
+    due("balloon at a sixteenth", b.at(0, 16, 0), 6);
+    due("balloon y at a sixteenth", b.at(0, 16, 1), 5);
+    due("balloon y behind it", b.at(0, 17, 1), 4);
     for (int i = 5; i < 12; i++) due("thing " + i, m.flies(1, 0, 0, 0, 0), i);
     due("13th", m.flies(1, 0, 0, 0, 0), NONE);
   }
@@ -250,6 +257,11 @@ public final class PromisesTest {
     due("the greater of two", m.ground(p(11, 14)), 30);
     due("the second alone", m.ground(p(15, 14)), 20);
     due("the greatest", m.ground(p(12, 14)), 50);
+    m.hill(p(40, 3), p(41, 2), 9);
+    due("more x than y", m.ground(p(41, 3)), 9);
+    due("as told", m.ground(p(40, 2)), 9);
+    due("not beyond its y", m.ground(p(40, 4)), 0);
+    due("not ahead of its y", m.ground(p(40, 1)), 0);
     due("no place", m.ground(-1), NONE);
     due("no place", m.ground(4096), NONE);
     due("last place", m.ground(4095), 0);
@@ -296,6 +308,9 @@ public final class PromisesTest {
     due("cut", wayTo(1, 2), 42);
     due("north", wayTo(0, 10), 64);
     due("north to west", wayTo(-2, 1), 64 + 42);
+    due("half to the west", wayTo(-1, 1), 96);
+    due("half to the south", wayTo(-1, -1), 160);
+    due("half to the east", wayTo(1, -1), 224);
     due("west", wayTo(-7, 0), 128);
     due("west to south", wayTo(-1, -2), 128 + 42);
     due("south", wayTo(0, -3), 192);
@@ -368,6 +383,8 @@ public final class PromisesTest {
     due("off it, behind the hill", o.seen(0, 0, 1, 2), 0);
     due("so far off that no step comes to the hill", o.seen(0, 0, 204, 2), 1);
     // To a point behind the west the steps are cut downwards.
+    seenOffTheMap();
+    seenAcross();
     MarshLights q = new MarshLights();
     q.seer(p(10, 10));
     q.flies(1, 239, p(9, 10), 2, STILL);
@@ -381,6 +398,54 @@ public final class PromisesTest {
     due("just along the hill", r.seen(0, 0, 0, 2), 1);
     r.hill(p(11, 10), p(11, 10), 21);
     due("floor of the line", r.seen(0, 0, 0, 3), 1);
+  }
+
+  private static void seenOffTheMap() {
+    MarshLights m = new MarshLights();
+    m.seer(p(63, 63));
+    m.hill(p(0, 0), p(62, 63), 60);
+    m.hill(p(63, 0), p(63, 62), 60);
+    m.flies(5, 239, p(63, 63), 0, speed(16, 0));
+    m.flies(5, 239, p(63, 63), 0, speed(0, 16));
+    m.flies(5, 239, p(63, 63), 0, speed(20, 20));
+    m.flies(5, 239, p(63, 63), 0, speed(-16, 0));
+    m.flies(5, 239, p(63, 63), 0, speed(0, -16));
+    for (int i = 0; i < 3; i++) due("no ground beyond " + i, m.seen(i, 0, 1, 2), 1);
+    due("ground to the west", m.seen(3, 0, 1, 3), 0);
+    due("ground to the south", m.seen(4, 0, 1, 3), 1);
+    MarshLights w = new MarshLights();
+    w.seer(p(0, 0));
+    w.hill(p(0, 1), p(0, 63), 60);
+    w.hill(p(1, 0), p(63, 63), 60);
+    w.flies(5, 239, p(0, 0), 0, speed(-16, 0));
+    w.flies(5, 239, p(0, 0), 0, speed(0, -16));
+    w.flies(5, 239, p(0, 0), 0, speed(0, 16));
+    w.flies(5, 239, p(0, 0), 0, speed(16, 0));
+    due("no ground ahead of x", w.seen(0, 0, 1, 2), 1);
+    due("no ground ahead of y", w.seen(1, 0, 1, 2), 1);
+    due("ground to the north", w.seen(2, 0, 1, 3), 0);
+    due("ground to the east", w.seen(3, 0, 1, 3), 1);
+  }
+
+  /** Hills on a line with both an x and a y, that alone, and not where it doesn't go. */
+  private static void seenAcross() {
+    int[][] on = {{13, 39}, {19, 37}, {25, 33}};
+    for (int[] place : on) {
+      MarshLights m = new MarshLights();
+      m.seer(p(10, 40));
+      m.lamp(p(26, 32), 1, 1, 0);
+      due("shown", m.seen(0, 0, 0, 2), 1);
+      // 16 steps of 1 to the east and half to the south: 10 + k, 40 + floor(-k / 2).
+      int k = place[0] - 10;
+      m.hill(p(place[0], 40 - (k + 1) / 2), p(place[0], 40 - (k + 1) / 2), 2);
+      due("hidden at step " + k, m.seen(0, 0, 0, 3), 0);
+      MarshLights n = new MarshLights();
+      n.seer(p(10, 40));
+      n.lamp(p(26, 32), 1, 1, 0);
+      n.hill(p(place[0], 0), p(place[0], 40 - (k + 1) / 2 - 1), 60);
+      n.hill(p(place[0], 40 - (k + 1) / 2 + 1), p(place[0], 63), 60);
+      due("not beside it", n.seen(0, 0, 0, 2), 1);
+    }
   }
 
   private static void seenRefused() {
@@ -564,6 +629,17 @@ public final class PromisesTest {
     due("one is left", m.fewest(), 0b10010);
     m.off(0, 0);
     due("all are left", m.fewest(), 0);
+    m.off(8, 20);
+    m.undo();
+    m.undo();
+    due("what was taken back needs nothing", m.fewest(), 0b01010);
+    MarshLights all = new MarshLights();
+    all.seer(0);
+    for (int i = 0; i < 12; i++) {
+      all.star(20 * i, 100, 0);
+      all.tell(0, 0, 20000 * i + 100, 20000 * i + 100, 1);
+      due("all of " + i, all.fewest(), (2 << i) - 1);
+    }
     // Fewer bits go ahead of a lesser number.
     MarshLights n = new MarshLights();
     n.seer(0);
@@ -644,6 +720,9 @@ public final class PromisesTest {
     due("everywhere else", n.cross(0, 1, 0), 4095);
     due("least x", n.cross(0, 1, 2), 0);
     due("greatest y", n.cross(0, 1, 5), 63);
+    n.tell(1, 0, 130000, 0, 1);
+    due("less", n.cross(0, 2, 0) < 4095, true);
+    for (int i = 0; i < 6; i++) due("between as ahead " + i, m.cross(0, 1, i), between[i]);
     // The greatest z, 255, is 12 * 100 / 63 and more above an eye only near by.
     MarshLights h = new MarshLights();
     h.seer(p(0, 0));
@@ -663,6 +742,29 @@ public final class PromisesTest {
     due("255 from both", h.cross(3, 4, 1), 1);
     h.tell(0, 0, 404, 0, 1);
     due("256", h.cross(5, 4, 1), 0);
+    // A slope of 999 has no greatest height; the other's single z is 50 at the first place, none at the others.
+    MarshLights s = new MarshLights();
+    s.seer(p(10, 10));
+    s.seer(p(10, 30));
+    s.off(0, 0);
+    s.tell(0, 0, 64999, 0, 1);
+    s.tell(1, 0, 192257, 0, 1);
+    due("places", s.cross(0, 1, 0), 19);
+    due("with a height", s.cross(0, 1, 1), 1);
+    // Seers on hills: the eyes are 11 and 21, so that a slope of 0 meets z 21 alone where 100 / s goes under 10.
+    MarshLights e = new MarshLights();
+    e.seer(p(10, 10));
+    e.seer(p(10, 30));
+    e.hill(p(10, 10), p(10, 10), 10);
+    e.hill(p(10, 30), p(10, 30), 20);
+    e.off(0, 0);
+    e.tell(0, 0, 64100, 0, 1);
+    e.tell(1, 0, 192000, 0, 1);
+    // z is 11 + d from the one and 21 from the other: at d = 10.
+    due("with a height", e.cross(0, 1, 1), 1);
+    e.off(0, 11);
+    // z from 11 + ceil(.89 d) to 10 + ceil(1.12 d), and from 21 - floor(.11 (20 - d)) to 20 + ceil(.12 (20 - d)).
+    due("at 9, 10 and 11", e.cross(0, 1, 1), 3);
   }
 
   private static void out() {
@@ -698,6 +800,8 @@ public final class PromisesTest {
     due("at the ground everywhere", m.outs(0, 10, 20, 2), 4096);
     due("earlier", m.outs(0, 9, 20, 2), 0);
     due("later", m.outs(0, 11, 20, 2), 0);
+    due("just shown", m.outs(0, 10, 21, 2), 0);
+    due("no longer", m.outs(0, 11, 21, 2), 4096);
     due("never", m.outs(0, 10, 20, 0), 0);
     due("at once", m.outs(0, 238239, 1, 1), 4096);
     due("one apart", m.outs(0, 1, 3, 3), 4096);
@@ -717,36 +821,38 @@ public final class PromisesTest {
     due("on the hill earlier", m.outs(0, 5, 20, 2), 2);
     due("all others", m.outs(0, 10, 20, 2), 4094);
     due("nothing came", m.count(2), 0);
-    // A wall along x = 1, seen from 0, 0: what lies behind it goes out sooner.
-    MarshLights w = new MarshLights();
-    w.seer(p(0, 32));
-    w.hill(p(1, 0), p(1, 63), 60);
-    int sum = 0;
-    for (int t = 1; t <= 20; t++) sum += w.outs(0, t, 255, 13);
-    int wall = 64;
-    int shown = 0;
-    for (int place = 0; place < 4096; place++) shown += goesOut(place);
-    due("all that are shown at first go out once", sum, shown);
-    due("some behind the wall are", shown > 64 + wall, true);
-    due("others aren't", shown < 4096, true);
+    // Place by place, by flares on an object each, over hills on every side.
+    int[] outs = new int[241];
+    for (int place = 0; place < 4096; place++) {
+      MarshLights w = hilly();
+      w.flare(239, place, 130, 6);
+      int out = w.out(0, 0);
+      if (out != NONE) outs[out]++;
+    }
+    MarshLights w = hilly();
+    for (int t = 1; t <= 20; t++) due("out at " + t, w.outs(0, t, 130, 6), outs[t]);
+    due("some are out early", outs[1] + outs[2] + outs[3] + outs[4] > 100, true);
+    due("most are out late", outs[18] + outs[19] + outs[20] + outs[21] + outs[22] > 1000, true);
   }
 
-  private static int goesOut(int place) {
+  private static MarshLights hilly() {
     MarshLights m = new MarshLights();
-    m.seer(p(0, 32));
-    m.hill(p(1, 0), p(1, 63), 60);
-    m.flare(239, place, 255, 13);
-    int out = m.out(0, 0);
-    return out >= 1 && out <= 20 ? 1 : 0;
+    m.hill(p(38, 10), p(41, 15), 12);
+    m.hill(p(44, 0), p(44, 30), 31);
+    m.hill(p(30, 25), p(60, 27), 44);
+    m.hill(p(5, 12), p(33, 13), 25);
+    m.hill(p(36, 3), p(37, 4), 60);
+    m.seer(p(40, 13));
+    return m;
   }
 
   private static void size() {
     MarshLights m = new MarshLights();
-    m.seer(p(10, 10));
+    m.seer(p(10, 14));
     m.star(0, 0, 0);
-    m.flies(5, 10020, p(10, 10), 9, speed(-2, 3));
-    m.lamp(p(11, 12), 5, 2, 1);
-    m.flare(10020, p(11, 10), 5, 5);
+    m.flies(5, 10020, p(10, 14), 9, speed(-2, 3));
+    m.lamp(p(11, 16), 5, 2, 1);
+    m.flare(10020, p(11, 14), 5, 5);
     m.tell(0, 12013, 0, 0, 1);
     m.tell(0, 10010, 0, 0, 1);
     due("ten places off", m.size(0, 1, 7, 3), 23);
@@ -784,6 +890,11 @@ public final class PromisesTest {
     due("with a hull", m.hulls(1, 1), 1);
     due("with a hull", m.hulls(5, 1), 1);
     due("with a hull", m.hulls(6, 1), 0);
+    m.undo();
+    m.tell(0, 0, 50050, 50050, 19);
+    due("with two hulls", m.hulls(1, 1), 2);
+    m.undo();
+    due("not what was taken back", m.hulls(1, 1), 1);
     due("lights", m.hulls(0, 0), NONE);
     due("lights", m.hulls(10, 0), NONE);
     due("what", m.hulls(1, 2), NONE);
@@ -829,6 +940,16 @@ public final class PromisesTest {
     due("as ahead", n.ask(0), 2);
     n.undo();
     due("none parts any", n.ask(0), NONE);
+    n.tell(0, 2007, 64100, 64100, 1);
+    due("what is told in its place", n.ask(1), 3);
+    // Two stars that are 8 apart at first and 9 at last.
+    MarshLights l = new MarshLights();
+    l.seer(0);
+    l.star(100, 100, 0);
+    l.star(108, 100, 8);
+    l.tell(0, 1, 104100, 104100, 1);
+    due("parted at last", l.ask(1), 1);
+    due("one couple", l.ask(2), 1);
   }
 
   private static void feed() {
@@ -892,6 +1013,9 @@ public final class PromisesTest {
     faulty("grow 99999999999999999999;", 5);
     faulty("grow 4294967297;", 5);
     faulty("grow 1+;", 7);
+    faulty("grow 1*;", 7);
+    faulty("grow 2*(;", 8);
+    faulty("growz 1;", 0);
     faulty("grow +1;", 5);
     faulty("grow -1;", 5);
     faulty("grow 1 2;", 7);
@@ -927,6 +1051,12 @@ public final class PromisesTest {
     faulty("say star if 1<2 3;", 16);
     faulty("say star if 1<2 and;", 19);
     faulty("say star if 1<2 and 3;", 21);
+    faulty("say star if 1<;", 14);
+    faulty("say star if <1;", 12);
+    faulty("say star if 1<2 and 3=;", 22);
+    faulty("say star if (((((((((1)))))))))<1;", 20);
+    faulty("say star if 1<(((((((((1)))))))));", 22);
+    due("8 deep in clauses", faultOf("say star if ((((((((1))))))))<((((((((2))))))));"), NONE);
     faulty("say star if (1<2);", 14);
     faulty("say star if 1<2 say star if 1<2;", 16);
     faulty("say star if 1>2;", 13);
@@ -976,6 +1106,11 @@ public final class PromisesTest {
     due("grown", m.grown(5, 0, 0, 0), 3);
     due("empty again", m.rules(), NONE);
     due("rules stay", m.grown(5, 0, 0, 0), 3);
+    for (int i = 1; i <= 9; i++) {
+      write(m, "grow " + "1+".repeat(i) + "lights" + "*1".repeat(160) + ";");
+      due("rules again", m.rules(), 0);
+      due("grown", m.grown(5, 0, 0, 0), 5 + i);
+    }
   }
 
   private static void office() {
@@ -1025,10 +1160,21 @@ public final class PromisesTest {
     due("papers", m.office(0, 0, -1, 0), NONE);
     due("99", m.office(0, 99, 99, 0), 4);
     // What grows is not what the office goes by.
+    String deep = "0+1*1";
+    for (int i = 0; i < 8; i++) deep = "0+1*(" + deep + ")";
+    MarshLights d = ruled("say lamp if 1=1 and 1=" + deep + ";say flare if 2=" + deep + " and 1=1;");
+    d.seer(0);
+    d.tell(0, 0, 0, 0, 2);
+    due("deep", d.office(0, 0, 0, 0), 3);
     MarshLights g = ruled("grow 9;say lamp if lights=2;");
     g.seer(0);
     g.tell(0, 0, 0, 0, 2);
     due("as told", g.office(0, 0, 0, 0), 3);
+    MarshLights o = ruled("grow minute+way+slope+3;");
+    o.seer(0);
+    o.tell(0, 4005, 6007, 8009, 2);
+    due("no clause", o.office(0, 1, 1, 0), 0);
+    due("grow has no telling's minute, way and slope", o.grown(1, 0, 0, 0), 3);
   }
 
   private static void grown() {
@@ -1111,6 +1257,16 @@ public final class PromisesTest {
     drawn(m, 1, lots, 8);
     due("the same again", m.draw(0, 1), 1);
     drawn(m, 2, lots, 0);
+    for (int seed = 1; seed <= 300; seed++) {
+      m.undo();
+      x = seed * 17;
+      for (int i = 0; i < 8; i++) {
+        x = (x * 1103515245L + 12345L) & 0x7fffffffL;
+        lots[i] = x / 256;
+      }
+      due("seed " + x, m.draw(seed * 17, 1), 1);
+      drawn(m, 2, lots, 0);
+    }
     due("greatest seed", m.draw(1000000, 17), 17);
     due("twenty", m.draw(5, 20), 20);
     due("not beyond 60", m.draw(6, 20), 20);
@@ -1149,6 +1305,16 @@ public final class PromisesTest {
       }
     }
     due("told", told, k);
+    MarshLights h = new MarshLights();
+    h.seer(p(5, 5));
+    h.lamp(p(5, 9), 1, 2, 0);
+    int lit = h.draw(9, 20);
+    due("lit at first alone is not told", h.count(3), lit);
+    due("some", lit > 0 && lit < 20, true);
+    for (int i = 0; i < lit; i++) due("lit", h.telling(i, 1) % 2 + h.telling(i, 2) % 2, 0);
+    int least = 999;
+    for (int i = 0; i < lit; i++) least = Math.min(least, h.telling(i, 4));
+    due("slopes are brought to 0", least, 0);
     MarshLights z = new MarshLights();
     z.seer(p(5, 5));
     z.star(10, 100, 0);
