@@ -878,6 +878,7 @@ public final class MarshLights {
     private static final class Land {
         private final int[] grounds = new int[PLACES];
         private final int[] makers = new int[PLACES];
+        private int highest;
         private int hills;
 
         Land() {
@@ -899,6 +900,7 @@ public final class MarshLights {
                     }
                 }
             }
+            highest = Math.max(highest, height);
             return hills++;
         }
 
@@ -998,10 +1000,16 @@ public final class MarshLights {
             if (atStar) {
                 return NONE;
             }
+            boolean endsAbove = eye + rise >= land.highest;
             for (int k = 1; k < STEPS; k++) {
+                int line = eye + (rise * k >> STEP_BITS);
+                // Between two heights that no hill is above no hill comes above the line.
+                if (endsAbove && line >= land.highest) {
+                    return NONE;
+                }
                 int x = fromX + (dx * k >> STEP_BITS);
                 int y = fromY + (dy * k >> STEP_BITS);
-                if (land.groundAt(x, y) > eye + (rise * k >> STEP_BITS)) {
+                if (land.groundAt(x, y) > line) {
                     return land.makerAt(x, y);
                 }
             }
