@@ -1,7 +1,8 @@
 /** Runs of drawn calls: the program must answer as the document's slow model does. */
 public final class ModelTest {
-  private static final int RUNS = 160;
-  private static final int CALLS = 500;
+  private static final int RUNS = 640;
+  // An object is used for 512 calls at most; a step takes up to 90.
+  private static final int CALLS = 420;
 
   private long state;
   private MarshLights x;
@@ -9,6 +10,7 @@ public final class ModelTest {
   private int run;
   private int wrong;
   private long calls;
+  private int callsOfRun;
 
   public static void main(String[] args) {
     ModelTest test = new ModelTest();
@@ -44,6 +46,7 @@ public final class ModelTest {
 
   private void same(String call, long got, long want) {
     calls++;
+    callsOfRun++;
     if (got != want) {
       wrong++;
       System.out.println("run " + run + ": " + call + " answered " + got + ", the model " + want);
@@ -54,6 +57,7 @@ public final class ModelTest {
 
   private void one(int number) {
     run = number;
+    callsOfRun = 0;
     state = number * 7919L + 1;
     x = new MarshLights();
     m = new Model();
@@ -64,7 +68,7 @@ public final class ModelTest {
     for (int i = 0; i < seers; i++) seer();
     for (int i = 0; i < things; i++) thing();
     if (below(2) == 0) write(sentence());
-    for (int i = 0; i < CALLS; i++) step();
+    while (callsOfRun < CALLS) step();
     for (int i = -1; i <= 8; i++) same("count " + i, x.count(i), m.count(i));
   }
 
@@ -188,9 +192,10 @@ public final class ModelTest {
       }
       default: {
         int seed = arg(0, 1000000), n = below(3) == 0 ? arg(1, 20) : from(1, 3);
+        int i = m.tellings.size();
         same("draw " + seed + " " + n, x.draw(seed, n), m.draw(seed, n));
         int w = arg(0, 8);
-        for (int i = 0; i < m.tellings.size(); i++) same("telling " + i + " " + w, x.telling(i, w), m.telling(i, w));
+        for (; i < m.tellings.size(); i++) same("telling " + i + " " + w, x.telling(i, w), m.telling(i, w));
       }
     }
     int w = from(-1, 8);

@@ -1258,14 +1258,16 @@ public final class PromisesTest {
     due("the same again", m.draw(0, 1), 1);
     drawn(m, 2, lots, 0);
     for (int seed = 1; seed <= 300; seed++) {
-      m.undo();
+      MarshLights one = new MarshLights();
+      one.star(200, 995, 2);
+      one.seer(p(5, 5));
       x = seed * 17;
       for (int i = 0; i < 8; i++) {
         x = (x * 1103515245L + 12345L) & 0x7fffffffL;
         lots[i] = x / 256;
       }
-      due("seed " + x, m.draw(seed * 17, 1), 1);
-      drawn(m, 2, lots, 0);
+      due("seed " + x, one.draw(seed * 17, 1), 1);
+      drawn(one, 0, lots, 0);
     }
     due("greatest seed", m.draw(1000000, 17), 17);
     due("twenty", m.draw(5, 20), 20);
@@ -1275,8 +1277,10 @@ public final class PromisesTest {
     m.undo();
     due("one more", m.draw(8, 20), 1);
     for (int i = 0; i < 60; i++) {
-      due("slopes are brought to 999", m.telling(i, 4) <= 999 && m.telling(i, 4) >= 975, true);
-      due("minutes", m.telling(i, 2) - m.telling(i, 1) < 10 && m.telling(i, 2) <= 239, true);
+      int slope = m.telling(i, 4);
+      int last = m.telling(i, 2);
+      due("slopes are brought to 999", slope <= 999 && slope >= 975, true);
+      due("minutes", last - m.telling(i, 1) < 10 && last <= 239, true);
       due("it fits", m.fits(i, 0), 0);
     }
     // What isn't shown is not told, but its lots are drawn: a lamp is never lit in two minutes running.
