@@ -540,9 +540,11 @@ public final class BoundariesTest {
     hill(w, 10, 11, 5);
     due(w.seen(3, 0, 0, 2), 1, "to the north none is");
     says(10, "0 without (also outside of the map)");
-    int[][] speeds = {{16, 0}, {0, 16}, {16, 16}, {-16, 0}, {0, -16}, {-16, -16}, {16, -16}, {-16, 16}};
-    int[][] froms = {{63, 30}, {30, 63}, {63, 63}, {0, 30}, {30, 0}, {0, 0}, {63, 0}, {0, 63}};
-    for (int i = 0; i < 8; i++) {
+    int[][] speeds = {{16, 0}, {0, 16}, {16, 16}, {-16, 0}, {0, -16}, {-16, -16}, {16, -16}, {-16, 16}, {0, -16}, {-16, 0},
+        {0, 16}, {16, 0}};
+    int[][] froms = {{63, 30}, {30, 63}, {63, 63}, {0, 30}, {30, 0}, {0, 0}, {63, 0}, {0, 63}, {0, 0}, {0, 0}, {63, 63},
+        {63, 63}};
+    for (int i = 0; i < 12; i++) {
       // All places but the seer's are hills, each step is outside: a line from eye 1 down to 0 is above the ground there.
       MarshLights o = seers(p(froms[i][0], froms[i][1]));
       int x = froms[i][0];
@@ -720,6 +722,19 @@ public final class BoundariesTest {
     due(fit(m, 12017, 0, 0, 0, 0), 2, "ground as high as the line");
     hill(m, 15, 0, 2);
     due(fit(m, 12017, 0, 0, 0, 0), 0, "hidden");
+    // Behind a hill at 8, 0 in the one minute, off that line in the other.
+    for (int way = 0; way < 2; way++) {
+      MarshLights h = seers(p(0, 0));
+      h.off(32, 200);
+      h.flies(5, 10011, p(16, way * 4), 2, speed(0, way == 0 ? 4 : -4));
+      due(fit(h, 10011, 5, 5, 5, 5), 1, "shown in both", way);
+      hill(h, 8, 0, 9);
+      due(h.seen(0, 0, 10, 2), way, "in the first", way);
+      due(h.seen(0, 0, 11, 2), 1 - way, "in the second", way);
+      due(fit(h, 10011, 5, 5, 5, 5), 0, "hidden in one", way);
+      due(fit(h, 10010, 5, 5, 5, 5), way, "the first alone", way);
+      due(fit(h, 11011, 5, 5, 5, 5), 1 - way, "the second alone", way);
+    }
     MarshLights later = seers(p(0, 0));
     later.tell(0, 0, 0, 0, 1);
     due(later.fits(0, NONE), 0, "nothing there yet");
@@ -1376,6 +1391,13 @@ public final class BoundariesTest {
     fault("grow {;", 5);
     fault("grow /;", 5);
     fault("grow :;", 5);
+    int[] beside = {'`', '{', '/', ':', 'A', 'Z', 255, 0, 127, 128, 9, 11, 13, 31, 33, '!', ',', '.', '>', '[', ']'};
+    for (int c : beside) {
+      fault("grow lights" + (char) c + ";", 11);
+      fault("grow 12" + (char) c + ";", 7);
+      fault("grow " + (char) c + "lights;", 5);
+      fault("grow (" + (char) c + "12);", 6);
+    }
     says(27, "words of small letters, numbers of digits, as long as can be");
     fault("grow 1lights;", 6);
     fault("grow lights1;", 11);
@@ -1531,6 +1553,12 @@ public final class BoundariesTest {
     fault("say star if 1=1=1;", 15);
     fault("say star if 1<=1;", 14);
     fault("say star if (1<1);", 14);
+    fault("say star if 1<;", 14);
+    fault("say star if 1=;", 14);
+    fault("say star if <1;", 12);
+    fault("say star if =1;", 12);
+    fault("say star if 1=1 and 1<;", 22);
+    fault("say star if 1=1 and <1;", 20);
     fault("say star if 1=1 and 1;", 21);
     fault("say star if 1=1 and;", 19);
     fault("say star if 1=1 if;", 16);
@@ -1687,8 +1715,12 @@ public final class BoundariesTest {
         int thing = kind == 0 ? one.star(64, 50, 0) : kind == 2 ? one.flare(239, p(0, 20), 11, 0)
             : kind == 3 ? one.lamp(p(0, 20), 11, 1, 0) : one.flies(kind, 239, p(0, 20), 11, STILL);
         one.tell(0, 0, 64050, 64050, 1);
-        due(one.fits(0, thing), 0, "it fits");
+        due(one.fits(0, thing), 0, "it fits", said, kind);
         due(one.office(0, 0, 0, 2), said == kind ? 0 : 1, "one kind fits", said, kind);
+        // What is there, but doesn't fit, doesn't count.
+        for (int other = 0; other < 6; other++) if (other != kind) thing(one, other, p(20, 0));
+        due(one.fits(0, NONE), 1, "it alone fits");
+        due(one.office(0, 0, 0, 2), said == kind ? 0 : 1, "all kinds there, one fits", said, kind);
       }
     }
   }
