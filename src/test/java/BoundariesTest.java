@@ -745,6 +745,21 @@ public final class BoundariesTest {
     hill(later, 8, 0, 2);
     due(later.fits(0, NONE), 0, "a hill that came behind the telling");
     due(later.left(0), 0, "left then");
+    // Two changes, one behind the other, count both.
+    for (int one = 0; one < 5; one++) {
+      for (int other = 0; other < 5; other++) {
+        MarshLights two = seers(p(0, 0));
+        thing(two, 1, p(16, 0));
+        two.tell(0, 0, 1050, 1050, 1);
+        due(two.fits(0, NONE), 1, "ahead of the changes");
+        change(two, one);
+        change(two, other);
+        int fit = (one == 0 ? 1 : 0) + (other == 0 ? 1 : 0) + (one == 1 || other == 1 ? 0 : 1);
+        if (other == 4 || one == 4 && other != 3) fit = 0;
+        due(two.fits(0, NONE), fit, "behind two changes", one, other);
+        due(two.left(NONE), fit == 0 ? 1 : 0, "behind two changes", one, other);
+      }
+    }
     says(15, "How many THINGS FIT (k NONE), or the k-th; NONE if there are none such.");
     MarshLights k = seers(0);
     for (int i = 0; i < 12; i++) k.star(i % 3 == 1 ? 200 : 100, 100, 0);
@@ -763,6 +778,15 @@ public final class BoundariesTest {
     due(k.fits(2, 0), NONE, "no first");
     due(k.fits(3, NONE), NONE, "no such telling");
     due(k.fits(-1, NONE), NONE, "no such telling");
+  }
+
+  /** A star that is just 1 off, or a hill in the way to 16, 0, or one beside it, or OFF as it was, or 0. */
+  private static void change(MarshLights m, int which) {
+    if (which == 0) m.star(0, 50, 0);
+    if (which == 1) hill(m, 8, 0, 30);
+    if (which == 2) hill(m, 30, 30, 30);
+    if (which == 3) m.off(8, 20);
+    if (which == 4) m.off(0, 0);
   }
 
   private static void left() {
@@ -822,6 +846,21 @@ public final class BoundariesTest {
     for (int i = 0; i < 12; i++) all.star(20 * i, 100, 0);
     for (int i = 0; i < 60; i++) all.tell(0, 0, i % 12 * 20100 - i % 12 * 100 + 100, i % 12 * 20000 + 100, 1);
     due(all.fewest(), 4095, "all twelve");
+    MarshLights unlike = seers(0);
+    unlike.off(32, 200);
+    for (int i = 0; i < 12; i++) unlike.star(20 * (i / 3), 300 + 100 * (i % 3), 0);
+    // 60 tellings, of each of four ways on end and of three slopes on end: just those stars.
+    for (int i = 0; i < 60; i++) {
+      int[] w = {0, 0, 0, 1, 0, 2, 0, 3, 1, 1, 1, 2, 1, 3, 2, 2, 2, 3, 3, 3};
+      int[] s = {0, 0, 0, 1, 0, 2, 1, 1, 1, 2, 2, 2};
+      int way = i / 6;
+      int slope = i % 6;
+      unlike.tell(0, 0, (20 * w[2 * way] + 30) * 1000 + 100 * s[2 * slope] + 450,
+          Math.floorMod(20 * w[2 * way + 1] - 30, 256) * 1000 + 100 * s[2 * slope + 1] + 150, 1);
+      int fit = (w[2 * way + 1] - w[2 * way] + 1) * (s[2 * slope + 1] - s[2 * slope] + 1);
+      due(unlike.fits(i, NONE), fit, "of 60 unlike ones", i);
+    }
+    due(unlike.fewest(), 4095, "60 unlike ones, twelve of them with one alone");
     MarshLights last = seers(0);
     for (int i = 0; i < 12; i++) last.star(10 * i, 100, 0);
     last.tell(0, 0, 118100, 118100, 1);
@@ -1257,6 +1296,11 @@ public final class BoundariesTest {
         due(m.ask(1), more == 1 && fit == 2 ? 8 : NONE, "A", a, more);
       }
     }
+    MarshLights all = seers(0);
+    for (int i = 0; i < 12; i++) all.star(i % 2 == 0 ? 96 : 105, 100, 0);
+    all.tell(0, 0, 100100, 100100, 1);
+    due(all.fits(0, NONE), 12, "twelve fit");
+    due(all.ask(2), 36, "six by six");
     says(24, "NONE for others, or if nothing parts any.");
     MarshLights m = seers(0);
     for (int what = -1; what < 4; what++) due(m.ask(what), NONE, "no telling", what);
